@@ -681,11 +681,11 @@ public final class OrderHall {
             }
         }
 
-        /** What fewer hold, k hold too. */
+        // What fewer hold, k hold too. One more holds at least one element more till all are held,
+        // so no two that are as large stand here against one another.
         private void spreadFirsts(int[] sizes, int[] sets) {
             for (int k = 1; k <= MOST_ELEMENTS; k++) {
-                boolean lesser = sizes[k - 1] == sizes[k] && sets[k - 1] < sets[k];
-                if (sizes[k - 1] > sizes[k] || lesser) {
+                if (sizes[k - 1] > sizes[k]) {
                     sizes[k] = sizes[k - 1];
                     sets[k] = sets[k - 1];
                 }

@@ -641,6 +641,30 @@ public final class PromiseTest {
         due("check keeps the sequence", x.number(), 3);
     }
 
+    /** No answer hangs on what was asked before it. */
+    private static void askedFirst() {
+        due("count(1) first", fork().count(1), 2);
+        due("count(5) first", fork().count(5), 12);
+        due("count(6) first", fork().count(6), 5);
+        due("antichain(0) first", fork().antichain(0), 40);
+        due("antichain(1) first", fork().antichain(1), 17);
+        due("most first", fork().most(1, 2), 4);
+        due("first first", fork().first(1, 2), 53);
+        due("check first", fork().check(), 1);
+        due("sequences first", fork().sequences(), 10);
+        OrderHall x = fork();
+        x.take(9);
+        due("take first", x.number(), 9);
+        for (int what = 0; what < 7; what++) {
+            OrderHall y = fork();
+            y.count(what);
+            y.sequences();
+            y.keep(3);
+            counts("keep, then all, behind count(" + what + ")", y, 2, 1, 2, 1, 1, 3, 2);
+            due("keep, then sequences", y.sequences(), 1);
+        }
+    }
+
     public static void main(String[] args) {
         due("NONE", OrderHall.NONE, -1);
         promise1();
@@ -668,6 +692,7 @@ public final class PromiseTest {
         promise23();
         promise24();
         promise25();
+        askedFirst();
         System.out.println(wrong == 0 ? "all promises hold" : wrong + " answers are not as due");
         if (wrong != 0) {
             System.exit(1);
