@@ -559,6 +559,12 @@ public final class BoundaryPromisesTest {
         Sentences.due("lowest of a chain", Halls.chain(14).antichain(1), 1);
         Sentences.due("highest of seven pairs", Halls.sevenPairs().antichain(0), 127 << 7);
         Sentences.due("lowest of seven pairs", Halls.sevenPairs().antichain(1), 127);
+        OrderHall x = Halls.settled(3);
+        Sentences.due("lowest, three apart", x.antichain(1), 7);
+        x.arc(0, 1);
+        x.arc(0, 2);
+        x.settle();
+        Sentences.due("lowest, 0 below the others now", x.antichain(1), 6);
     }
 
     private static void antichainRefused() {
